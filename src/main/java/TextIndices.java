@@ -128,7 +128,7 @@ public final class TextIndices {
   }
 
   public int answer(int i) {
-    return answers.has(i) ? answers.textAt(i) : NO;
+    return answers.textAt(i);
   }
 
   public long score(int i) {
@@ -888,7 +888,7 @@ public final class TextIndices {
       count++;
     }
 
-    boolean has(int i) {
+    private boolean has(int i) {
       return i >= 0 && i < count && i < numbers.length;
     }
 

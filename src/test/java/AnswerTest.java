@@ -36,6 +36,10 @@ public final class AnswerTest {
     c.ask("red rose", 0, -1, 0);
     c.ask("rose -red", 0, -1, 1);
     c.ask("rose -rose", 0, -1);
+    // Rules are not used twice.
+    c.text("wallss", 0, 0, 5);
+    c.ask("x | wallss", 0, -1, 5);
+    c.ask("walls", 0, -1);
   }
 
   /** By stems that begin with the word as it is. */

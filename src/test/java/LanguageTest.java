@@ -8,6 +8,7 @@ public final class LanguageTest {
     stemming();
     longStems();
     countingStems();
+    languagesAreApart();
     Check.finish();
   }
 
@@ -94,6 +95,7 @@ public final class LanguageTest {
     c.stem("singing", 0, "sing");
     c.stem("  COMING, home", 0, "com");
     c.stem("comin", 0, "coming");
+    c.stem("cominging", 0, "coming");
     c.stop("coming", 0, 1);
     c.stem("coming", 0, "com");
     Check.due("stem of nothing", c.type(" ;").x.stem(0), TextIndices.NO);
@@ -138,5 +140,22 @@ public final class LanguageTest {
     Check.due("stems", c.x.stems(2), 0);
     Check.due("stems", c.x.stems(3), TextIndices.BAD);
     Check.due("stems", c.x.stems(-1), TextIndices.BAD);
+  }
+
+  private static void languagesAreApart() {
+    Check c = new Check();
+    c.text("walls floors", 0, 0, 0);
+    c.text("walls floors", 1, 0, 1);
+    c.text("doors floors", 0, 0, 2);
+    c.ending("s", 1, 1);
+    c.stop("floors", 1, 1);
+    c.ask("walls", 0, -1, 0);
+    c.ask("doors", 0, -1, 2);
+    c.ask("floors", 0, -1, 0, 2);
+    c.ask("wall", 0, -1);
+    c.ask("wall", 1, -1, 1);
+    c.ask("floors", 1, -1);
+    Check.due("stems", c.x.stems(0), 3);
+    Check.due("stems", c.x.stems(1), 1);
   }
 }

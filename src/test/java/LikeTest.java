@@ -16,6 +16,9 @@ public final class LikeTest {
     c.like("rosy", 0, 0);
     c.like("ROSE", 0, 1, "rose", "arose", "hose", "nose", "rise", "ros", "roses");
     c.like("rosy", 0, 1, "ros", "rose");
+    c.like("xhose", 0, 1, "hose");
+    c.like("xxhose", 0, 2, "hose");
+    c.like("hosexx", 0, 2, "hose");
     c.like("kitten", 0, 3);
     c.text("sitting ab ba", 0, 1, 1);
     c.like("kitten", 0, 3, "sitting");
