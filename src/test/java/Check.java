@@ -1,15 +1,32 @@
 import java.nio.charset.StandardCharsets;
+import java.util.Arrays;
+import java.util.stream.IntStream;
 
 /** A new object under test, typed to in texts, and a count of the answers that were not due. */
 final class Check {
+  /** Near the limits, far from them, and such as become right ones when bits above are lost. */
+  private static final int[] FAR = {Integer.MIN_VALUE, Integer.MIN_VALUE + 1, -65536, -256, -10, -3, 256, 257, 65536,
+    1 << 30, Integer.MAX_VALUE - 1, Integer.MAX_VALUE};
   private static int wrong = 0;
+  private static String sentence = "";
   final TextIndices x = new TextIndices();
+
+  /** The document's words that the answers from here on are held against. */
+  static void sentence(String quoted) {
+    sentence = "[" + quoted + "] ";
+  }
 
   static void due(String call, long got, long want) {
     if (got != want) {
       wrong++;
-      System.out.println(call + " answered " + got + ", due is " + want);
+      System.out.println(sentence + call + " answered " + got + ", due is " + want);
     }
+  }
+
+  /** Numbers that are less than the least or more than the most. */
+  static int[] outside(int least, int most) {
+    int[] near = {least - 2, least - 1, most + 1, most + 2};
+    return IntStream.concat(Arrays.stream(near), Arrays.stream(FAR)).filter(i -> i < least || i > most).toArray();
   }
 
   static void finish() {
