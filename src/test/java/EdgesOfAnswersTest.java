@@ -184,6 +184,9 @@ public final class EdgesOfAnswersTest {
     c.ask("walls", 0, -1);
     c.ask("wall", 0, -1, 2);
     c.scores(WHOLE);
+    // With * it is a beginning, of other words' stems too.
+    c.text("theme", 0, 0, 3);
+    c.ask("the*", 0, -1, 3);
   }
 
   private static void partsOfARow() {

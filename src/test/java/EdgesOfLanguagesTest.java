@@ -346,6 +346,9 @@ public final class EdgesOfLanguagesTest {
     c.stem(FULL_TAPE, 0, "a");
     c.stop("the", 0, 1);
     c.stem("the", 0, "the");
+    c.stop("walls", 0, 1);
+    c.ending("s", 0, 1);
+    c.stem("walls", 0, "wall");
   }
 
   private static void stemOfNoWord() {

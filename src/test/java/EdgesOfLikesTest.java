@@ -6,6 +6,7 @@ public final class EdgesOfLikesTest {
     noChange();
     oneChange();
     justEnoughChanges();
+    moreBytesThanChanges();
     firstBytesAndLast();
     twelveBytes();
     firstWordOfTheTape();
@@ -39,7 +40,7 @@ public final class EdgesOfLikesTest {
   private static void oneChange() {
     Check.sentence("11: a byte more, one less, another one");
     Check c = new Check();
-    c.text("abc abcd xabc abxc ab bc ac xbc axc abx acb cba", 0, 0, 0);
+    c.text("abc abcd xabc abxc ab bc ac xbc axc abx acb bac cba", 0, 0, 0);
     c.like("abc", 0, 1, "abc", "ab", "abcd", "abx", "abxc", "ac", "axc", "bc", "xabc", "xbc");
   }
 
@@ -55,6 +56,21 @@ public final class EdgesOfLikesTest {
     for (int language = 0; language < 3; language++) {
       for (int changes = 0; changes <= 3; changes++) {
         c.like("abcdef", language, changes, Arrays.copyOf(words[language], changes + 1));
+      }
+    }
+  }
+
+  private static void moreBytesThanChanges() {
+    Check.sentence("11: that become it by so many changes at most (0 .. 3)");
+    String all = "abcdefghijkl";
+    for (int length = 1; length <= 12; length++) {
+      Check c = new Check();
+      c.text(all.substring(0, length), 0, 0, 0);
+      for (int other = 1; other <= 12; other++) {
+        int apart = Math.abs(length - other);
+        Check.due("like " + other + " bytes", c.type(all.substring(0, other)).x.like(0, 3), apart <= 3 ? 1 : 0);
+        int strange = Math.max(length, other);
+        Check.due("like other bytes", c.type("zzzzzzzzzzzz".substring(0, other)).x.like(0, 3), strange <= 3 ? 1 : 0);
       }
     }
   }
